@@ -42,6 +42,10 @@ public final class CheckTest {
         Due.faults("3: another size", x, 0, 1, 0, 2, 1, 3, 1, 2, 4, 3, 4);
         x.size(0, 7);
         Due.faults("3: none", x, 0, 1, 0, 2, 1, 2, 4);
+        x.division(1, -1, 5, 0);
+        x.division(1, -1, 4, 0);
+        x.division(1, -1, 5, 0);
+        Due.faults("2: as one that is not the first", x, 1, 1, 2, 1, 5, 1, 6, 1, 7, 2, 7);
     }
 
     private static void ofFiles() {

@@ -34,7 +34,7 @@ public final class DifferTest {
         Due.same("differ(-1, 0)", x.differ(-1, 0), -1);
         Due.same("differ(0, -1)", x.differ(0, -1), -1);
         Due.same("differ(MAX, MIN)", x.differ(Integer.MAX_VALUE, Integer.MIN_VALUE), -1);
-        parentsDoNotCount();
+        manyAndOne();
         Due.end();
     }
 
@@ -43,7 +43,7 @@ public final class DifferTest {
         Due.same(name + ", the other way", x.differ(other, map), want);
     }
 
-    private static void parentsDoNotCount() {
+    private static void manyAndOne() {
         StructureMap x = new StructureMap();
         x.map(0);
         x.map(0);

@@ -3,6 +3,7 @@ public final class RepeatsTest {
     public static void main(String[] args) {
         reasons();
         comesBack();
+        byManyWays();
         longChain();
         Due.end();
     }
@@ -63,6 +64,27 @@ public final class RepeatsTest {
         Due.same("6 is at the top", x.move(6, -1), 1);
         Due.same("6 repeats 3", x.repeat(6, 3), 1);
         Due.same("5 repeats 6, which comes to it", x.repeat(5, 6), -3);
+    }
+
+    /** 0; then 12 times one with eight under it, all of which repeat the one before. */
+    private static void byManyWays() {
+        StructureMap x = new StructureMap();
+        x.map(1);
+        int before = x.division(0, -1, 0, 0);
+        for (int level = 1; level <= 12; level++) {
+            int next = x.division(0, -1, level, 0);
+            for (int n = 0; n < 8; n++) {
+                Due.same("repeat(.., " + before + ")", x.repeat(x.division(0, next, n, 0), before), 1);
+            }
+            before = next;
+        }
+        Due.same("0 repeats the last", x.repeat(0, before), -3);
+        Due.same("a free one", x.repeat(x.division(0, -1, 99, 0), before), 1);
+        int pair = x.division(0, -1, 100, 0);
+        Due.same("the first of two", x.division(0, pair, 0, 0), pair + 1);
+        Due.same("the second of two repeats 0", x.repeat(x.division(0, pair, 1, 0), 0), 1);
+        Due.same("0 repeats the pair, whose second repeats it", x.repeat(0, pair), -3);
+        Due.same("0 repeats the first", x.repeat(0, pair + 1), 1);
     }
 
     private static void longChain() {
