@@ -10,6 +10,7 @@ public final class FaceTest {
     public static void main(String[] args) {
         constants();
         members();
+        theClassItself();
         newObject();
         objectsAreApart();
         Due.end();
@@ -22,25 +23,63 @@ public final class FaceTest {
         Due.same("FULL", StructureMap.FULL, -4);
     }
 
+    /** Of the document's own lines, as the machine writes them. */
     private static void members() {
+        TreeSet<String> want = new TreeSet<>(Arrays.asList(
+            "public static final int NONE",
+            "public static final int RANGE",
+            "public static final int STATE",
+            "public static final int FULL",
+            "public StructureMap()",
+            "public int file(int)",
+            "public int size(int,int)",
+            "public int map(int)",
+            "public int division(int,int,int,int)",
+            "public int link(int,int,int,int)",
+            "public int repeat(int,int)",
+            "public int move(int,int)",
+            "public int order(int,int)",
+            "public int read(int)",
+            "public int step(int,int)",
+            "public int check(int)",
+            "public int fault(int,int) throws java.lang.IndexOutOfBoundsException",
+            "public int print(int)",
+            "public int at(int)",
+            "public int differ(int,int)",
+            "public int about(int,int)"));
+        TreeSet<String> seen = seenMembers();
+        Due.same("the face is the document's, but is " + seen, seen.equals(want) ? 1 : 0, 1);
+    }
+
+    private static TreeSet<String> seenMembers() {
         TreeSet<String> seen = new TreeSet<>();
         for (Method method : StructureMap.class.getDeclaredMethods()) {
-            if (!Modifier.isPrivate(method.getModifiers())) {
-                seen.add(method.getName() + method.getParameterCount());
-            }
+            see(seen, method.getModifiers(), method.toGenericString());
         }
         for (Field field : StructureMap.class.getDeclaredFields()) {
-            if (!Modifier.isPrivate(field.getModifiers())) {
-                seen.add(field.getName());
-            }
+            see(seen, field.getModifiers(), field.toGenericString());
         }
         for (Constructor<?> constructor : StructureMap.class.getDeclaredConstructors()) {
-            seen.add("new" + constructor.getParameterCount());
+            see(seen, constructor.getModifiers(), constructor.toGenericString());
         }
-        TreeSet<String> want = new TreeSet<>(Arrays.asList("NONE", "RANGE", "STATE", "FULL", "new0",
-            "file1", "size2", "map1", "division4", "link4", "repeat2", "move2", "order2", "read1",
-            "step2", "check1", "fault2", "print1", "at1", "differ2", "about2"));
-        Due.same("the face is the document's, but is " + seen, seen.equals(want) ? 1 : 0, 1);
+        return seen;
+    }
+
+    private static void see(TreeSet<String> seen, int modifiers, String written) {
+        if (!Modifier.isPrivate(modifiers)) {
+            seen.add(written.replace("StructureMap.", ""));
+        }
+    }
+
+    private static void theClassItself() {
+        int modifiers = StructureMap.class.getModifiers();
+        Due.same("the class is public", Modifier.isPublic(modifiers) ? 1 : 0, 1);
+        Due.same("the class is final", Modifier.isFinal(modifiers) ? 1 : 0, 1);
+        Due.same("the class has no package", StructureMap.class.getPackageName().length(), 0);
+        Due.same("the class is under Object alone",
+            StructureMap.class.getSuperclass() == Object.class ? 1 : 0, 1);
+        Due.same("interfaces of the class", StructureMap.class.getInterfaces().length, 0);
+        Due.same("public classes inside", StructureMap.class.getClasses().length, 0);
     }
 
     private static void newObject() {

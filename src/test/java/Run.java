@@ -13,6 +13,7 @@ final class Run {
     private final StructureMap x = new StructureMap();
     private int calls = 0;
 
+    /** Promise 0 is what the document says before the first one. */
     Run(int promise, String sentence) {
         name = "promise " + promise + ", " + sentence;
     }
@@ -166,6 +167,14 @@ final class Run {
             at(i, text.charAt(i));
         }
         return at(text.length(), -1);
+    }
+
+    /** Calls that change nothing, until the next one is that call. */
+    Run waitFor(int call) {
+        while (calls < call - 1) {
+            differ(0, 0, 0);
+        }
+        return this;
     }
 
     Run with(Consumer<Run> more) {
